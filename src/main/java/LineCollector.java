@@ -78,32 +78,14 @@ public final class LineCollector {
 
     public int load(int to, int root, int i)
             throws IllegalArgumentException, IllegalStateException, IndexOutOfBoundsException {
-        if (!isRoot(to) || !isRoot(root)) {
-            throw new IllegalArgumentException();
-        }
-        Item item = roots[root];
-        if (item == null) {
-            throw new IllegalStateException();
-        }
-        if (!item.hasField(i)) {
-            throw new IndexOutOfBoundsException();
-        }
+        Item item = itemWithField(root, i, to);
         roots[to] = item.held[i];
         return addressOf(roots[to]);
     }
 
     public void store(int root, int i, int from)
             throws IllegalArgumentException, IllegalStateException, IndexOutOfBoundsException {
-        if (!isRoot(root) || !isRoot(from)) {
-            throw new IllegalArgumentException();
-        }
-        Item item = roots[root];
-        if (item == null) {
-            throw new IllegalStateException();
-        }
-        if (!item.hasField(i)) {
-            throw new IndexOutOfBoundsException();
-        }
+        Item item = itemWithField(root, i, from);
         if (item.isOld() && !item.logged[i]) {
             log.add(item, i);
         }
@@ -226,6 +208,20 @@ public final class LineCollector {
 
     private static boolean isRoot(int r) {
         return r >= 0 && r < ROOTS;
+    }
+
+    private Item itemWithField(int root, int i, int otherRoot) {
+        if (!isRoot(root) || !isRoot(otherRoot)) {
+            throw new IllegalArgumentException();
+        }
+        Item item = roots[root];
+        if (item == null) {
+            throw new IllegalStateException();
+        }
+        if (!item.hasField(i)) {
+            throw new IndexOutOfBoundsException();
+        }
+        return item;
     }
 
     private static int addressOf(Item item) {
@@ -379,7 +375,6 @@ public final class LineCollector {
             moveTo(item, places.find(item.size));
             addFieldsToSlots(item);
         }
-        slots.clear();
         places.forgetMovedOut();
         return grown;
     }
@@ -520,7 +515,7 @@ public final class LineCollector {
         }
 
         boolean isWhite() {
-            return count > 0 && colour == WHITE;
+            return isOld() && colour == WHITE;
         }
 
         void growOld(int newColour) {
@@ -529,7 +524,7 @@ public final class LineCollector {
         }
 
         void turnGreyIfWhite() {
-            if (count > 0 && colour == WHITE) {
+            if (isWhite()) {
                 colour = GREY;
             }
         }
