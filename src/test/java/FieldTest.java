@@ -25,6 +25,24 @@ public final class FieldTest {
         x.pause(false);
         check.due("moved", x.field(19, 11), 16);
         check.throwsDue("not there any more", NoSuchElementException.class, () -> x.field(3, 11));
+        fieldsOfEachSize(check);
         check.end();
+    }
+
+    /** "Its cells are its FIELDS 0 .. n - 1" */
+    private static void fieldsOfEachSize(Check check) {
+        for (int n = 1; n <= 12; n++) {
+            LineCollector x = new LineCollector();
+            int size = n;
+            x.allocate(0, size, n);
+            x.store(0, size - 1, 0);
+            check.due("the last of " + n, x.field(0, size - 1), 0);
+            check.due("loaded", x.load(1, 0, size - 1), 0);
+            check.throwsDue("behind " + n, IndexOutOfBoundsException.class, () -> x.field(0, size));
+            check.throwsDue("stored behind " + n, IndexOutOfBoundsException.class, () -> x.store(0, size, 0));
+            check.throwsDue("loaded behind " + n, IndexOutOfBoundsException.class, () -> x.load(1, 0, size));
+            check.throwsDue("no object in its last cell", NoSuchElementException.class,
+                () -> x.field(size == 1 ? 1 : size - 1, 0));
+        }
     }
 }

@@ -29,14 +29,28 @@ public final class FigureTest {
         for (int k : new int[] {-1, 9, Integer.MIN_VALUE, Integer.MAX_VALUE}) {
             check.throwsDue("figure " + k, IllegalArgumentException.class, () -> x.figure(k));
         }
+        goneAsWhiteInAll(check);
         check.end();
     }
 
-    private static void figures(Check check, LineCollector x, String due) {
-        StringBuilder got = new StringBuilder();
-        for (int k = 0; k <= 8; k++) {
-            got.append(k > 0 ? " " : "").append(x.figure(k));
+    /** "7: how many objects were gone as WHITE ones at the end of a trace, in all" */
+    private static void goneAsWhiteInAll(Check check) {
+        LineCollector x = new LineCollector();
+        for (int n = 1; n <= 3; n++) {
+            for (int k = 0; k < n; k++) {
+                x.allocate(k, 1, k);
+                x.store(k, 0, k);
+            }
+            x.pause(false);
+            for (int k = 0; k < n; k++) {
+                x.drop(k);
+            }
+            Layout.traceAll(x);
+            check.due("1 and 2 and 3", x.figure(7), n * (n + 1) / 2);
         }
-        check.due("figures", got.toString(), due);
+    }
+
+    private static void figures(Check check, LineCollector x, String due) {
+        check.due("figures", State.figures(x), due);
     }
 }

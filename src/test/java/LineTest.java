@@ -27,10 +27,6 @@ public final class LineTest {
     }
 
     private static void lines(Check check, LineCollector x, String due) {
-        StringBuilder got = new StringBuilder();
-        for (int l = 0; l < 32; l++) {
-            got.append(l > 0 && l % 8 == 0 ? " " : "").append(x.line(l));
-        }
-        check.due("lines", got.toString(), due);
+        check.due("lines", State.lines(x), due);
     }
 }

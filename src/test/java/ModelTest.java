@@ -10,6 +10,7 @@ public final class ModelTest {
     private final LineCollector program = new LineCollector();
     private final Model model = new Model();
     private long seed;
+    private int calls;
 
     private ModelTest(Check check, int run) {
         this.check = check;
@@ -31,9 +32,9 @@ public final class ModelTest {
     }
 
     private void play() {
-        for (int call = 0; call < CALLS; call++) {
+        for (int turn = 0; calls < CALLS; turn++) {
             playOne();
-            if (call % 8 == 7) {
+            if (turn % 8 == 7) {
                 compareState();
             }
         }
@@ -44,7 +45,7 @@ public final class ModelTest {
     }
 
     private int anyField() {
-        return below(40) == 0 ? below(16) - 2 : below(3);
+        return below(40) == 0 ? below(16) - 2 : below(run % 5 == 0 ? 12 : 3);
     }
 
     private int anySize() {
@@ -55,46 +56,74 @@ public final class ModelTest {
         return run % 8 < 4 || below(3) == 0 ? 1 + below(most) : 5 + below(8);
     }
 
+    /** Runs that keep little, that fill the heap, that also pause seldom, and that store much into what they keep. */
     private void playOne() {
-        int often = 2 + run / 8 % 6;
-        int kind = below(24 + often);
+        int way = run / 8 % 4;
+        boolean filled = way == 3 && calls > 200;
+        if (way > 0 && !filled && below(3) == 0) {
+            keepOneMore();
+            return;
+        }
+        int often = run / 32 % 6;
+        int kind = below(24 + (way == 2 ? often % 2 : filled ? 1 : 2 + often));
+        playAny(filled && kind < 7 ? kind + 7 : kind);
+    }
+
+    /** A new object holds what a root held, and the root holds the new object. */
+    private void keepOneMore() {
+        int kept = below(2);
+        int via = 2 + below(4);
+        int size = anySize();
+        int tag = below(1000) - 500;
+        int i = below(2) * below(size + 1);
+        act("allocate", () -> program.allocate(via, size, tag), () -> model.allocate(via, size, tag));
+        act("store", () -> said(() -> program.store(via, i, kept)), () -> said(() -> model.store(via, i, kept)));
+        act("copy", () -> said(() -> program.copy(kept, via)), () -> said(() -> model.copy(kept, via)));
+    }
+
+    private void playAny(int kind) {
         if (kind < 7) {
             int r = anyRoot();
             int size = anySize();
             int tag = below(1000) - 500;
-            compare("allocate", () -> program.allocate(r, size, tag), () -> model.allocate(r, size, tag));
+            act("allocate", () -> program.allocate(r, size, tag), () -> model.allocate(r, size, tag));
         } else if (kind < 14) {
             int r = anyRoot();
             int i = anyField();
             int from = anyRoot();
-            compare("store", () -> said(() -> program.store(r, i, from)), () -> said(() -> model.store(r, i, from)));
+            act("store", () -> said(() -> program.store(r, i, from)), () -> said(() -> model.store(r, i, from)));
         } else if (kind < 18) {
             int to = anyRoot();
             int r = anyRoot();
             int i = anyField();
-            compare("load", () -> program.load(to, r, i), () -> model.load(to, r, i));
+            act("load", () -> program.load(to, r, i), () -> model.load(to, r, i));
         } else if (kind < 19) {
             int r = anyRoot();
-            compare("drop", () -> said(() -> program.drop(r)), () -> said(() -> model.drop(r)));
+            act("drop", () -> said(() -> program.drop(r)), () -> said(() -> model.drop(r)));
         } else if (kind < 20) {
             int to = anyRoot();
             int from = anyRoot();
-            compare("copy", () -> said(() -> program.copy(to, from)), () -> said(() -> model.copy(to, from)));
+            act("copy", () -> said(() -> program.copy(to, from)), () -> said(() -> model.copy(to, from)));
         } else if (kind < 22) {
             int n = below(7) - 1;
-            compare("drain", () -> program.drain(n), () -> model.drain(n));
+            act("drain", () -> program.drain(n), () -> model.drain(n));
         } else if (kind < 24) {
             int n = below(6) - 1;
-            compare("trace", () -> program.trace(n), () -> model.trace(n));
+            act("trace", () -> program.trace(n), () -> model.trace(n));
         } else {
             boolean begins = below(2) == 0;
-            compare("pause", () -> program.pause(begins), () -> model.pause(begins));
+            act("pause", () -> program.pause(begins), () -> model.pause(begins));
         }
     }
 
     private static String said(Check.Act act) throws Exception {
         act.run();
         return "done";
+    }
+
+    private void act(String what, Callable<?> got, Callable<?> want) {
+        calls++;
+        compare(what, got, want);
     }
 
     private void compare(String what, Callable<?> got, Callable<?> want) {
