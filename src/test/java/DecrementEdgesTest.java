@@ -15,6 +15,7 @@ public final class DecrementEdgesTest {
         whatAWhiteOneHeldStaysWhite(check);
         whatAGreyOneHeldAndIsBlackStaysBlack(check);
         theRowGoesRound(check);
+        thoseThatHaveLeftTheRowDoNotCount(check);
         aFullRow(check);
         moreThanTheLogHasAtOnce(check);
         theyAreOfTheObjectWhereverItIsMoved(check);
@@ -208,6 +209,25 @@ public final class DecrementEdgesTest {
             check.due("waits, pause " + k, x.object(waits, 2), 2);
         }
         check.due("objects", x.figure(0), 6);
+    }
+
+    /** "how many ... waiting decrements there are": not those that waited once, however many there were */
+    private static void thoseThatHaveLeftTheRowDoNotCount(Check check) {
+        LineCollector x = new LineCollector();
+        x.allocate(0, 1, 1);
+        for (int r = 1; r < 6; r++) {
+            x.copy(r, 0);
+        }
+        for (int k = 0; k < 100; k++) {
+            x.pause(false);
+        }
+        check.due("six wait", x.figure(2), 6);
+        for (int r = 1; r < 6; r++) {
+            x.drop(r);
+        }
+        Layout.traceAll(x);
+        check.due("one waits", x.figure(2), 1);
+        check.due("a root and a decrement", x.object(x.root(0), 2), 2);
     }
 
     /** The roots and all cells of the heap in the log at once, and then all cells of what is gone. */
